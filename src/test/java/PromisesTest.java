@@ -364,7 +364,9 @@ public final class PromisesTest {
         for (int bad : BAD_FILES) {
             due("P10 bad file", x.damage(0, bad), ChunkCluster.BAD_NUMBER);
         }
-        due("P10 server 4 is none of the files", x.damage(4, 1), 0);
+        crashAll(x);
+        due("P10 of a file that is not available", x.damage(1, 1), 1);
+        due("P10 that one too is no longer current", x.replicas(1), 0b00101);
     }
 
     private static void heal() {
